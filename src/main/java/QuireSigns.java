@@ -515,10 +515,15 @@ public final class QuireSigns {
 
     /** The letters, 0 to 25, and which of them are left out. */
     private static final class Alphabet {
-        private static final int OUT_AT_FIRST = 1 << 'J' - 'A' | 1 << 'V' - 'A' | 1 << 'W' - 'A';
+        static final int NONE_OUT = 0;
+        static final int OUT_AT_FIRST = 1 << 'J' - 'A' | 1 << 'V' - 'A' | 1 << 'W' - 'A';
 
         /** A bit for each letter that is left out. */
-        private int out = OUT_AT_FIRST;
+        private int out;
+
+        Alphabet(int out) {
+            this.out = out;
+        }
 
         boolean has(int letter) {
             return letter >= 0 && letter < Sign.LETTERS && (out >> letter & 1) == 0;
@@ -565,7 +570,7 @@ public final class QuireSigns {
         static final int SIGN_ONE_MORE = 1;
         static final int SIGN_ALL = 2;
 
-        private final Alphabet alphabet = new Alphabet();
+        private final Alphabet alphabet = new Alphabet(Alphabet.OUT_AT_FIRST);
         private int signing = SIGN_ONE_MORE;
         private final Row signs = new Row(MOST_QUIRES);
         private final Row sizes = new Row(MOST_QUIRES);
@@ -776,13 +781,14 @@ public final class QuireSigns {
             return index >= 0 && index < books.length ? books[index] : null;
         }
 
+        /** The oldest book goes behind the others, where the next state is put into it. */
         private void dropOldest() {
-            Book oldest = books[0];
-            for (int i = 0; i < books.length - 1; i++) {
-                books[i] = books[i + 1];
+            for (int i = 1; i < books.length; i++) {
+                Book oldest = books[i - 1];
+                books[i - 1] = books[i];
+                books[i] = oldest;
             }
-            books[books.length - 1] = oldest;
-            states = books.length - 1;
+            states--;
         }
     }
 
@@ -794,14 +800,10 @@ public final class QuireSigns {
         private final Row firstSigns = new Row(MOST_ENTRIES);
         private final Row lastSigns = new Row(MOST_ENTRIES);
         private final Row numbers = new Row(MOST_ENTRIES);
-        private final Alphabet allLetters = new Alphabet();
+        private final Alphabet allLetters = new Alphabet(Alphabet.NONE_OUT);
 
         /** Where is read; if anything is refused there, this is the fault. */
         private int at;
-
-        Text() {
-            allLetters.out = 0;
-        }
 
         int length() {
             return characters.length();

@@ -213,6 +213,7 @@ final class ToldTest {
         for (int what = 0; what < counts.length; what++) {
             CHECK.due("22: count(" + what + ")", book.count(what), counts[what]);
         }
+        CHECK.due("22: starred ones at both ends", Check.bookOf("*1,A1,**1,B1,*1").count(5), 3);
         CHECK.due("22: -1", book.count(-1), QuireSigns.BAD_VALUE);
         CHECK.due("22: 13", book.count(13), QuireSigns.BAD_VALUE);
         CHECK.due("22: the greatest", book.count(Integer.MAX_VALUE), QuireSigns.BAD_VALUE);
