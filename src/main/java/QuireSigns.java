@@ -149,6 +149,7 @@ public final class QuireSigns {
         if (found.length() > MOST_PILED) {
             return FULL;
         }
+        history.record(book);
         book.pile.empty();
         for (int i = 0; i < found.length(); i++) {
             book.addToPile(found.at(i));

@@ -56,11 +56,16 @@ final class HistoryTest {
         book.leaveOut('C', true);
         book.setSigning(2);
         Check.readPile(book, "A2,A3,A4");
-        book.undo();
-        CHECK.due("12: signing", book.count(10), 1);
+        CHECK.due("12: undo of the pile", book.undo(), 3);
         CHECK.due("12: the pile as it was then", book.count(9), 2);
-        book.undo();
+        CHECK.due("12: the signing stays", book.count(10), 2);
+        CHECK.due("12: undo of the signing", book.undo(), 2);
+        CHECK.due("12: signing", book.count(10), 1);
+        CHECK.due("12: undo of the letter", book.undo(), 1);
         CHECK.due("12: letters", book.count(4), 23);
+        CHECK.due("12: the pile still", book.count(9), 2);
+        CHECK.due("12: undo of the first pile", book.undo(), 0);
+        CHECK.due("12: no pile was there", book.count(9), 0);
         book.insert(0, 1, 1);
         book.remove(2);
         book.undo();
@@ -71,7 +76,7 @@ final class HistoryTest {
 
     private static void promise12NoAct() {
         QuireSigns book = Check.bookOf("A4,B4");
-        Check.readPile(book, "A1");
+        Check.put(book, "A1");
         book.find();
         book.keep();
         book.type('A');
@@ -82,6 +87,7 @@ final class HistoryTest {
         book.setSigning(1);
         book.setSigning(3);
         book.readFormula();
+        book.readPile();
         book.signNext(0);
         book.insert(3, 1, 1);
         book.remove(2);

@@ -300,6 +300,7 @@ final class PlainBook {
         if (sorted.size() > 12) {
             return FULL;
         }
+        record();
         state.pile.clear();
         state.pile.addAll(sorted);
         return sorted.size();

@@ -6,6 +6,7 @@ final class TextTest {
         promise9Piles();
         promise9Faults();
         promise9Errors();
+        promise9IsAnAct();
         promise10Type();
         promise11ClearText();
         promise17Find();
@@ -17,7 +18,7 @@ final class TextTest {
         QuireSigns book = Check.bookOf("A4,**4,B4,A8,Bb24");
         CHECK.due("9: one", Check.readPile(book, "A1"), 1);
         CHECK.due("9: the text stays", book.count(12), 2);
-        CHECK.due("9: no act", book.count(11), 1);
+        CHECK.due("9: an act", book.count(11), 2);
         CHECK.due("9: three", Check.readPile(book, "B2,**1,A3"), 3);
         int[] leaves = {2, 4, 9};
         for (int rank = 0; rank < leaves.length; rank++) {
@@ -89,6 +90,44 @@ final class TextTest {
         String twice = "A1,A1,A1,A1,A1,A1,A1,A1,A1,A1,A1,A1,A1,A1,A1,A1,A1,A1,A1,A1";
         CHECK.due("9: twenty signs", Check.readPile(book, twice), QuireSigns.NOT_POSSIBLE);
         CHECK.due("9: an empty book", Check.readPile(new QuireSigns(), "A1"), QuireSigns.UNKNOWN);
+    }
+
+    private static void promise9IsAnAct() {
+        QuireSigns book = Check.bookOf("A9");
+        CHECK.due("9: the formula alone", book.count(11), 1);
+        CHECK.due("9: the first pile", Check.readPile(book, "A9"), 1);
+        CHECK.due("9: recorded", book.count(11), 2);
+        CHECK.due("9: a second pile", Check.readPile(book, "A2,A3"), 2);
+        CHECK.due("9: the same one again", book.readPile(), 2);
+        CHECK.due("9: recorded too", book.count(11), 4);
+        recordsNothing(book, "A", -101);
+        recordsNothing(book, "B1", QuireSigns.UNKNOWN);
+        recordsNothing(book, "A1,A1", QuireSigns.NOT_POSSIBLE);
+        CHECK.due("9: undo of the same one", book.undo(), 3);
+        CHECK.due("9: still the second pile", book.count(9), 2);
+        CHECK.due("9: undo of the second pile", book.undo(), 2);
+        CHECK.due("9: the first pile has one leaf", book.count(9), 1);
+        CHECK.due("9: A9", book.piled(0, 0), 8);
+        CHECK.due("9: undo of the first pile", book.undo(), 1);
+        CHECK.due("9: no pile", book.count(9), 0);
+        CHECK.due("9: the quire stays", book.count(0), 1);
+        twelveAreTheMost();
+    }
+
+    private static void twelveAreTheMost() {
+        QuireSigns book = Check.bookOf("A24");
+        String twelve = "A1,A2,A3,A4,A5,A6,A7,A8,A9,A10,A11,A12";
+        recordsNothing(book, twelve + ",A13", QuireSigns.FULL);
+        CHECK.due("9: twelve", Check.readPile(book, twelve), 12);
+        CHECK.due("9: twelve are recorded", book.count(11), 2);
+    }
+
+    private static void recordsNothing(QuireSigns book, String text, int due) {
+        int states = book.count(11);
+        int leaves = book.count(9);
+        CHECK.due("9: an error of '" + text + "'", Check.readPile(book, text), due);
+        CHECK.due("9: nothing is recorded of '" + text + "'", book.count(11), states);
+        CHECK.due("9: the pile stays behind '" + text + "'", book.count(9), leaves);
     }
 
     private static void promise10Type() {
