@@ -1,6 +1,16 @@
+import java.io.IOException;
+import java.io.UncheckedIOException;
+import java.nio.file.Files;
+import java.nio.file.Path;
+
 /** Compares answers with those that are due and ends a test. */
 final class Check {
+    private static final Path DOCUMENT = Path.of("../shared/DOC.md");
+    private static final String WORDS = words();
+
     private final String test;
+    private String sentence = "";
+    private int sentences;
     private int calls;
     private int wrong;
 
@@ -8,29 +18,55 @@ final class Check {
         this.test = test;
     }
 
+    /**
+     * Tells by which words of the document the next answers are due. The words are to stand there:
+     * if the document is changed, the tests of the changed sentences are to be read again.
+     */
+    void sentence(String words) {
+        sentence = " \"" + words + "\":";
+        sentences++;
+        if (!WORDS.contains(words)) {
+            wrong++;
+            System.out.println(test + ":" + sentence + " does not stand in the document");
+        }
+    }
+
+    private static String words() {
+        try {
+            return Files.readString(DOCUMENT);
+        } catch (IOException e) {
+            throw new UncheckedIOException(e);
+        }
+    }
+
     void due(String what, long got, long want) {
         calls++;
         if (got != want) {
             wrong++;
-            System.out.println(test + ": " + what + " answered " + got + ", due is " + want);
+            System.out.println(test + ":" + sentence + " " + what + " answered " + got + ", due is " + want);
         }
     }
 
     /** The text that the formula of a book is, read character by character. */
     static String formulaOf(QuireSigns book) {
         StringBuilder formula = new StringBuilder();
-        for (int i = 0; book.formula(i) != QuireSigns.NONE; i++) {
-            formula.append((char) book.formula(i));
+        int character = book.formula(0);
+        while (character != QuireSigns.NONE && formula.length() < 400) {
+            formula.append((char) character);
+            character = book.formula(formula.length());
         }
         return formula.toString();
     }
 
     void formula(QuireSigns book, String want) {
-        String got = formulaOf(book);
+        same("the formula", formulaOf(book), want);
+    }
+
+    void same(String what, String got, String want) {
         calls++;
         if (!got.equals(want)) {
             wrong++;
-            System.out.println(test + ": the formula is " + got + ", due is " + want);
+            System.out.println(test + ":" + sentence + " " + what + " is " + got + ", due is " + want);
         }
     }
 
@@ -67,7 +103,8 @@ final class Check {
     }
 
     void end() {
-        System.out.println(test + ": " + calls + " answers, " + wrong + " of them wrong");
+        String told = sentences == 0 ? "" : " by " + sentences + " sentences";
+        System.out.println(test + ": " + calls + " answers" + told + ", " + wrong + " of them wrong");
         if (wrong != 0) {
             System.exit(1);
         }

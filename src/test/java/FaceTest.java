@@ -31,6 +31,7 @@ final class FaceTest {
         face();
         noMoreMembers();
         noNameTwice();
+        sizes();
         words();
         CHECK.end();
     }
@@ -102,6 +103,22 @@ final class FaceTest {
         }
         for (Method method : hidden) {
             CHECK.due(method + " has a name of its own", names.contains(method.getName()) ? 1 : 0, 0);
+        }
+    }
+
+    private static void sizes() {
+        List<Class<?>> classes = new ArrayList<>(List.of(QuireSigns.class.getDeclaredClasses()));
+        classes.add(QuireSigns.class);
+        CHECK.due("some twelve classes: " + classes, classes.size() <= 12 ? 1 : 0, 1);
+        for (Class<?> one : classes) {
+            int fields = 0;
+            for (Field field : one.getDeclaredFields()) {
+                fields += Modifier.isStatic(field.getModifiers()) ? 0 : 1;
+            }
+            CHECK.due("some twenty fields of " + one, fields <= 20 ? 1 : 0, 1);
+            for (Method method : one.getDeclaredMethods()) {
+                CHECK.due("seven parameters of " + method, method.getParameterCount() <= 7 ? 1 : 0, 1);
+            }
         }
     }
 
